@@ -1010,7 +1010,7 @@ public final class BasketEnvoys {
         }
 
         int wantAt(int power, int i) {
-            return within(i, 0, wantedBy(power) - 1) ? entry(wants, WANTED * power + i) : NONE;
+            return i >= 0 && i < entry(wanted, power) ? entry(wants, WANTED * power + i) : NONE;
         }
 
         int courtAt(int line, int what) {
@@ -1540,24 +1540,29 @@ public final class BasketEnvoys {
             }
         }
 
+        // A row of nots is open until what stands behind it is read: all of them end together.
         private void readCondition(int open) {
-            boolean isNot = tokens.isWord(NOT);
-            if (!isNot && tokens.signHere() != '(') {
+            int nots = 0;
+            for (int i = open; i < NESTED && tokens.isWord(NOT); i++) {
+                tokens.skip();
+                nots++;
+            }
+            boolean opens = tokens.signHere() == '(';
+            if (tokens.isWord(NOT) || opens && open + nots >= NESTED) {
+                tokens.refuse(TOO_MANY);
+            } else if (opens) {
+                tokens.skip();
+                readAny(open + nots + 1);
+                tokens.takeSign(')');
+            } else {
                 readSum();
                 int how = comparisonHere();
                 tokens.skip();
                 readSum();
                 draft.emit(how);
-            } else if (open >= NESTED) {
-                tokens.refuse(TOO_MANY);
-            } else if (isNot) {
-                tokens.skip();
-                readCondition(open + 1);
+            }
+            for (int i = 0; i < nots; i++) {
                 draft.emit(DO_NOT);
-            } else {
-                tokens.skip();
-                readAny(open + 1);
-                tokens.takeSign(')');
             }
         }
 
@@ -2072,18 +2077,18 @@ public final class BasketEnvoys {
                 put(neighbours, a, entry(neighbours, a) | 1 << b, true);
                 put(neighbours, b, entry(neighbours, b) | 1 << a, true);
             }
-            paint(0, 0);
+            paint(0, 0, neighbours, painted, paintings);
         }
 
-        private void paint(int land, int used) {
+        private static void paint(int land, int used, int[] neighbours, int[] painted, int[] paintings) {
             if (land >= LANDS) {
                 put(paintings, used, entry(paintings, used) + 1, true);
                 return;
             }
-            for (int k = 0; k <= used && k < COLOURS; k++) {
+            for (int k = 0; k <= used && k < painted.length; k++) {
                 if ((painted[k] & entry(neighbours, land)) == 0) {
                     painted[k] |= 1 << land;
-                    paint(land + 1, Math.max(used, k + 1));
+                    paint(land + 1, Math.max(used, k + 1), neighbours, painted, paintings);
                     painted[k] &= ~(1 << land);
                 }
             }
