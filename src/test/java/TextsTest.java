@@ -64,6 +64,12 @@ public final class TextsTest {
         due("P10 the law as it was", x.look(9), 1);
         CHECKS.refused(x, 1, "power 0 thing\t1 says 1;", 1, 13);
         CHECKS.refused(x, 1, "\u00ff", 1, 0);
+        // as many tokens as there can be
+        for (int k = 0; k < 4; k++) {
+            CHECKS.refused(x, k, ";".repeat(400), 1, 0);
+        }
+        CHECKS.told(x, 0, "nods" + " ".repeat(2) + "1+".repeat(196) + "1;", 1);
+        CHECKS.refused(x, 0, "nods" + " ".repeat(2) + "1+".repeat(197), 1, 400);
         CHECKS.refused(x, 1, "\u0000", 1, 0);
     }
 
@@ -105,6 +111,20 @@ public final class TextsTest {
         CHECKS.refused(x, 0, "Nods 5;", 1, 0);
         CHECKS.refused(x, 0, "nodss 5;", 1, 0);
         CHECKS.refused(x, 0, "nod 5;", 1, 0);
+        // all letters belong to a word, the signs beside them in the table of signs do not
+        for (char letter : "azAZmM".toCharArray()) {
+            CHECKS.refused(x, 0, "nods" + letter + " 5;", 1, 0);
+            CHECKS.refused(x, 0, letter + "nods 5;", 1, 0);
+        }
+        for (char sign : "`{@[_,.:!".toCharArray()) {
+            CHECKS.refused(x, 0, "nods" + sign + " 5;", 1, 4);
+        }
+        for (char sign : "/:".toCharArray()) {
+            CHECKS.refused(x, 0, "nods 5" + sign + "x;", 1, sign == '/' ? 7 : 6);
+        }
+        for (char digit : "09".toCharArray()) {
+            CHECKS.refused(x, 0, "nods 1234" + digit + ";", 1, 5);
+        }
         CHECKS.refused(x, 0, "power 5;", 1, 0);
         CHECKS.refused(x, 0, "nods;", 1, 4);
         CHECKS.refused(x, 0, "nods 12345;", 1, 5);
