@@ -384,6 +384,17 @@ public final class RiddlesTest {
         }
         due("P33 thirteenth", x.promise(7, 0, 3), -1);
         due("P34 the highest", x.kept(1), 1);
+        // a ring of eight: if one is kept, so is the next: all or none
+        x.promise(-1, 0, 0);
+        for (int i = 0; i < 8; i++) {
+            x.promise(i, (i + 1) % 8, 2);
+        }
+        due("P34 all or none", x.kept(0), 2);
+        due("P34 none is the least", x.kept(1), 0);
+        due("P34 none is sure", x.kept(2), 0);
+        x.promise(3, 0, 3);
+        due("P34 all", x.kept(1), 255);
+        due("P34 all are sure", x.kept(2), 255);
     }
 
     private static void hats() {
