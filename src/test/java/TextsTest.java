@@ -327,6 +327,18 @@ public final class TextsTest {
         CHECKS.told(x, 0, "cries ports * 10 + day;", 1);
         x.set(4, 0, 50);
         due("P12 ports", x.of(2, 7), 500);
+        // many lines, again and again: each line is reckoned by itself, and each law from its beginning
+        for (int i = 1; i <= 9; i++) {
+            CHECKS.told(x, 0, "cries 1 when 1=2 or 1=3;".repeat(15) + "cries " + i + "+2*3;", 16);
+            due("P12 the sixteenth line", x.of(2, 7), i + 6);
+        }
+        CHECKS.told(x, 0, "cries 1" + "+1".repeat(196) + ";", 1);
+        due("P12 a long sum", x.of(2, 7), 197);
+        String deep = "1=2 or 1=1 and (".repeat(8);
+        CHECKS.told(x, 0, "cries 9 when " + deep + "1=2 or 1=1 and 1+2*3 = 8-3+2*1" + ")".repeat(8) + ";", 1);
+        due("P12 deep in brackets", x.of(2, 7), 9);
+        CHECKS.told(x, 0, "cries 9 when " + deep + "1=2 or 1=1 and 1+2*3 = 8-3+2*2" + ")".repeat(8) + "; cries 8;", 2);
+        due("P12 deep in brackets, not so", x.of(2, 7), 8);
     }
 
     private static void tongues() {
