@@ -1567,14 +1567,17 @@ public final class BasketEnvoys {
         }
 
         private int comparisonHere() {
-            switch (tokens.signHere()) {
-                case '<': return DO_LESS;
-                case '=': return DO_EQUAL;
-                case '>': return DO_MORE;
-                default:
-                    tokens.refuse(OUT_OF_PLACE);
-                    return DO_EQUAL;
+            char sign = tokens.signHere();
+            if (sign == '<') {
+                return DO_LESS;
             }
+            if (sign == '>') {
+                return DO_MORE;
+            }
+            if (sign != '=') {
+                tokens.refuse(OUT_OF_PLACE);
+            }
+            return DO_EQUAL;
         }
 
         // A + or - waits until the * and / on its right are read.
