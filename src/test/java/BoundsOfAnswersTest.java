@@ -249,6 +249,8 @@ public final class BoundsOfAnswersTest {
     static void p12TheSixteenthLineIsALineToo() {
         BasketEnvoys x = sent("nods 1 when 1=2;".repeat(15) + "nods 16;", 3);
         due("nods", x.of(0, 8), 16);
+        BasketEnvoys y = sent("nods 1 when 1=2 or 1=3;".repeat(15) + "nods 2+3*4 when 1=1 and 1=1;", 3);
+        due("nods by a sum", y.of(0, 8), 14);
     }
 
     static void p12ComparedOnBothSides() {
@@ -265,6 +267,9 @@ public final class BoundsOfAnswersTest {
         due("7/2", cries("7/2"), 3);
         due("1/2", cries("1/2"), 0);
         due("8/2", cries("8/2"), 4);
+        due("7/1", cries("7/1"), 7);
+        due("0/7", cries("0/7"), 0);
+        due("7/9999", cries("7/9999"), 0);
         // a product that wraps is below 0: 9999 * 9999 * 22 = 2199560022 - 2^32
         int below = 9999 * 9999 * 22;
         due("it is below 0", Twins.yes(below < 0), 1);
@@ -301,8 +306,11 @@ public final class BoundsOfAnswersTest {
         String[] conditions = {
             "1=1 or 1=1 and 1=2", "(1=1 or 1=1) and 1=2", "1=2 and 1=1 or 1=1", "1=2 and (1=1 or 1=1)",
             "not 1=1 or 1=1", "not (1=1 or 1=1)", "not 1=2 and 1=2", "not (1=2 and 1=2)", "not not 1=2", "not not 1=1",
+            "1=1 or 1=2 or 1=2", "1=2 or 1=1 or 1=2", "1=2 or 1=2 or 1=1", "1=2 or 1=2 or 1=2", "1=1 and 1=1 and 1=2",
+            "1=2 and 1=1 and 1=1", "1=1 and 1=2 and 1=1", "1=1 and 1=1 and 1=1",
+            "1<2 and 1=1", "1=1 and 1<2", "2>1 and 1=1", "1<2 and 2>1", "not 1<2", "not 2>1", "not 2<1", "not 1>2",
         };
-        String truths = "1010100101";
+        String truths = "101010010111100001111100" + "11";
         for (int i = 0; i < conditions.length; i++) {
             due(conditions[i], cries("1 when " + conditions[i] + ";cries 0"), truths.charAt(i) - '0');
         }
@@ -363,6 +371,23 @@ public final class BoundsOfAnswersTest {
                 due(count + ", meaning " + i, x.powerOf(1, 10 + i), i < count ? wants[i] : -1);
             }
             due("no seventh", x.powerOf(1, 16), -2);
+        }
+    }
+
+    static void p13SixMeaningsOfEachOfSixteenLines() {
+        BasketEnvoys x = new BasketEnvoys();
+        for (int i = 0; i < 10; i++) {
+            x.power(i);
+        }
+        StringBuilder text = new StringBuilder();
+        for (int i = 0; i < 16; i++) {
+            text.append("power").append(i % 10).append("wants1 2 3 4 5 ").append(i % 10).append(';');
+        }
+        due("told", Checks.tell(x, 3, text.toString()), 16);
+        for (int i = 0; i < 10; i++) {
+            due("how many", x.powerOf(i, 4), 6);
+            due("the first", x.powerOf(i, 10), 1);
+            due("the sixth", x.powerOf(i, 15), i);
         }
     }
 

@@ -189,6 +189,23 @@ public final class BoundsOfDaysTest {
         due("shows nothing", x.of(0, 6), 0);
         dueLine(x, 1, "0 5 0 0");
         due("lines", x.look(7), 2);
+        due("his basket", x.of(0, 5), 3);
+    }
+
+    static void p07EachLineOfTheCourtDoesItsOwnAlone() {
+        String[] lines = {"on 0 send 0 1;", "on 0 home 0;", "on 0 gift 0 3;", "on 0 mourn 0 3;"};
+        for (int i = 0; i < 4; i++) {
+            BasketEnvoys x = sent("cries 0;nods 0;");
+            Checks.tell(x, 2, "on 0 gift 0 9;".repeat(3));
+            Checks.tell(x, 2, lines[i]);
+            x.days(1);
+            due("trust 0 by " + lines[i], x.powerOf(0, 0), i == 2 ? 43 : 40);
+            due("trust 1 by " + lines[i], x.powerOf(1, 0), 60);
+            due("grief by " + lines[i], x.of(0, 1), i == 3 ? 3 : 4);
+            due("skill by " + lines[i], x.of(0, 0), 5);
+            due("home by " + lines[i], x.of(0, 3), -1);
+            due("lines by " + lines[i], x.look(7), 2);
+        }
     }
 
     static void p07CourtCallsNobodyHomeWhoIs() {
@@ -750,6 +767,17 @@ public final class BoundsOfDaysTest {
         due("the second", x.peace(0), 3);
         x.days(3);
         due("no third", x.peace(0), -1);
+    }
+
+    static void p16FromStepAsItIsNow() {
+        BasketEnvoys x = sent("cries 0;nods 1000;", 5, 6, 7);
+        Checks.tell(x, 3, "power 0 wants 5 6 7;");
+        for (int left = 3; left > 0; left--) {
+            due("behind", x.peace(0), left);
+            due("treaties", x.goes(left, 1), 1);
+            due("a day less", x.goes(left - 1, 1), left == 1 ? -1 : 0);
+            x.days(1);
+        }
     }
 
     static void p16NodsFallAt500AndNotAt499() {

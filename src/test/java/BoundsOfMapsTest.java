@@ -75,6 +75,7 @@ public final class BoundsOfMapsTest {
     static void p37NoneEmptiesThemWhateverTheOther() {
         for (int v : new int[] {-1, LEAST, 0, 8, MOST}) {
             BasketEnvoys x = fourteenBorders();
+            due("before", x.map(2), 2);
             due("none", x.border(-1, v), 0);
             due("map", x.map(2), 256);
             due("again", x.border(0, 1), 1);
@@ -241,6 +242,8 @@ public final class BoundsOfMapsTest {
 
     static void p40BothAlike() {
         laid("5", "5", 1, 1, 0);
+        laid("5", "55", 1, 2, 1);
+        laid("56", "5566", 2, 4, 2);
         laid("123456789012", "123456789012", 12, 12, 0);
         laid("000000000000", "000000000000", 12, 12, 0);
     }
@@ -263,6 +266,16 @@ public final class BoundsOfMapsTest {
         laid("199999999992", "188888888882", 2, 22, 10);
         laid("1", "222222222221", 1, 12, 11);
         laid("1", "122222222222", 1, 12, 11);
+    }
+
+    static void p40InWhateverOrderAsked() {
+        int[] dues = {0, 4, 2};
+        for (int order = 0; order < 27; order++) {
+            BasketEnvoys x = cloths("12", "34");
+            for (int what : new int[] {order % 3, order / 3 % 3, order / 9}) {
+                due("what " + what, x.cloths(what), dues[what]);
+            }
+        }
     }
 
     static void p40AskingChangesNothing() {
@@ -411,6 +424,8 @@ public final class BoundsOfMapsTest {
     }
 
     static void p43ThePassIs300() {
+        due("second and third alike", new BasketEnvoys().silence(0, 1, 1, true), 300);
+        due("first and third alike", new BasketEnvoys().silence(1, 0, 1, true), 300);
         due("two alike", new BasketEnvoys().silence(1, 1, 0, true), 300);
         due("without it", new BasketEnvoys().silence(1, 1, 0, false), -1);
     }
@@ -431,6 +446,24 @@ public final class BoundsOfMapsTest {
                     boolean loses = (a ^ b ^ c) == 0;
                     due(a + " " + b + " " + c, new BasketEnvoys().silence(a, b, c, false) == -1, loses);
                 }
+            }
+        }
+    }
+
+    static void p43AskedBehindAnyOtherQuestion() {
+        Twins.Call[] questions = {
+            x -> x.goes(3, 3), x -> x.peace(0), x -> x.alike(0), x -> x.lightest(0, 0), x -> x.lightest(0, 1), x -> x.heard(0, 0),
+            x -> x.heard(0, 1), x -> x.signs(), x -> x.pins(9, 1), x -> x.tables(0), x -> x.tables(1), x -> x.tables(2),
+            x -> x.stand(7, 3, 0), x -> x.stand(7, 3, 1), x -> x.stand(7, 3, 2), x -> x.sent(3, 0), x -> x.sent(3, 1),
+            x -> x.carried(9, 0), x -> x.carried(9, 1), x -> x.kept(0), x -> x.kept(1), x -> x.kept(2), x -> x.hats(2),
+            x -> x.map(3), x -> x.map(-1), x -> x.cloths(0), x -> x.cloths(1), x -> x.cloths(2), x -> x.word(3), x -> x.word(-1),
+            x -> x.silence(3, 4, 5, true), x -> x.of(0, 7), x -> x.of(0, 8), x -> x.of(0, 9),
+        };
+        for (int i = 0; i < questions.length; i++) {
+            for (int j = 0; j < questions.length; j++) {
+                BasketEnvoys x = Twins.full();
+                questions[i].on(x);
+                due("question " + j + " behind " + i, questions[j].on(x), questions[j].on(Twins.full()));
             }
         }
     }

@@ -133,6 +133,10 @@ public final class BoundsOfTablesTest {
         due("3 of row 0, 2 of row 1", x.tables(2), 3);
         x.table(1, 1, 6);
         due("9 of row 0", x.tables(2), 9);
+        BasketEnvoys y = tables(new int[] {9, 8, 7, -9, -9, -9, -9, -9, -9}, new int[] {1, 2, 1, 0, 0, 0, 0, 0, 0});
+        due("better by one for the second", y.tables(2), 8);
+        due("it leaves the others for one more", y.tables(0), 1);
+        due("this one", y.tables(1), 1);
     }
 
     static void p27EachRowCanLead() {
@@ -587,6 +591,7 @@ public final class BoundsOfTablesTest {
         }
         due("all or none", x.kept(0), 2);
         due("none is the least", x.kept(1), 0);
+        due("none is sure", x.kept(2), 0);
         x.promise(0, 7, 3);
         due("all alone", x.kept(0), 1);
         due("least", x.kept(1), 255);

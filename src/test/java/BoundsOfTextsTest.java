@@ -217,6 +217,12 @@ public final class BoundsOfTextsTest {
             refused(k, lines[k].repeat(15) + lines[k].replace(';', ' '), 1, 400);
         }
         refused(0, "nods " + "1+".repeat(197) + "1", 1, 400);
+        refused(0, "nods 1" + "+".repeat(394), 1, 7);
+        for (int k = 0; k < 4; k++) {
+            refused(k, ";".repeat(400), 1, 0);
+            refused(k, "x".repeat(400), 1, 0);
+            refused(k, "7".repeat(400), 1, 0);
+        }
         told(0, "nods " + "1+".repeat(196) + "11;", 1);
         told(0, "nods 1" + "*1+1".repeat(98) + " ;", 1);
     }
@@ -278,6 +284,43 @@ public final class BoundsOfTextsTest {
         x.days(1);
         due("one gift", x.powerOf(0, 0), 9);
         due("no gift", x.powerOf(1, 0), 4);
+    }
+
+    static void p10ToldManyTimesEachFromItsBeginning() {
+        BasketEnvoys x = town();
+        for (int i = 1; i <= 9; i++) {
+            due("lines", Checks.tell(x, 0, "cries 1+1 when 1=2;".repeat(15) + "cries " + i + "+2*3 when 1=1 and 2=2;"), 16);
+            due("cries", x.of(0, 7), i + 6);
+        }
+    }
+
+    static void p10InWhateverOrderTheyAreTold() {
+        String[] texts = {"nods 1000;cries 0;wins 2;", "power 0 thing 1 says 15;power 1 thing 0 says 1;", "on 0 gift 1 9;on 1 mourn 2 9;",
+            "power 0 wants 15 0;power 1 wants 7;"};
+        String first = "";
+        for (int order = 0; order < 256; order++) {
+            BasketEnvoys x = town();
+            x.act(2, 0, 1);
+            x.act(2, 0, 0);
+            x.act(0, 0, 0);
+            int told = 0;
+            for (int i = 0; i < 4; i++) {
+                int k = order >> 2 * i & 3;
+                Checks.tell(x, k, texts[k]);
+                told |= 1 << k;
+            }
+            if (told == 15) {
+                x.state(1);
+                x.days(2);
+                due("treaties", x.powerOf(0, 3), 1);
+                due("gift", x.powerOf(1, 0), 13);
+                due("grief", x.of(2, 1), 9);
+                due("trust", x.powerOf(0, 0), 7);
+                String seen = Twins.being(x);
+                first = first.isEmpty() ? seen : first;
+                Sentences.due("order " + order, seen, first);
+            }
+        }
     }
 
     static void p10WantsToldMakeEachStep0() {
@@ -675,6 +718,8 @@ public final class BoundsOfTextsTest {
                 refused(3, text, 3, 26);
             }
         }
+        refused(3, "power 0 wants 1 1 1 1 1 1 0;", 3, 26);
+        refused(3, "power 0 wants 1 1 1 1 1 1 15;", 3, 26);
         told(3, "power 0 wants 1 1 1 1 1 1;power 0 wants 1 1 1 1 1 1;", 2);
         refused(3, "power 0 wants 1;power 0 wants 1 1 1 1 1 1 1;", 3, 42);
     }

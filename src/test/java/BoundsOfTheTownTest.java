@@ -455,6 +455,8 @@ public final class BoundsOfTheTownTest {
         due("who", x.book(x.look(7) - 1, 2), 1);
         due("how much", x.book(x.look(7) - 1, 3), 2);
         due("day", x.book(x.look(7) - 1, 0), 1);
+        due("his basket", x.of(1, 5), 1);
+        due("not known by it", x.of(1, 4), Twins.full().of(1, 4));
     }
 
     static void p06SendOneWhoIsAwayCantBe() {
@@ -506,6 +508,10 @@ public final class BoundsOfTheTownTest {
         due("shown as it was", x.of(0, 6), 1);
         due("a line", x.book(x.look(7) - 1, 1), 5);
         due("how much", x.book(x.look(7) - 1, 3), 1);
+        due("his basket", x.of(0, 5), 3);
+        due("its fourth", x.of(0, 13), -1);
+        due("not known by it", x.of(0, 4), Twins.full().of(0, 4));
+        due("trust", x.powerOf(0, 0), Twins.full().powerOf(0, 0));
     }
 
     static void p06HomeOneWhoIsCantBe() {
@@ -729,6 +735,25 @@ public final class BoundsOfTheTownTest {
             x.act(2, 0, 1);
             due("kept", x.look(13), Math.min(6, i));
         }
+    }
+
+    static void p46The512thCallIsAnsweredAsTheFirst() {
+        BasketEnvoys x = Twins.full();
+        for (int i = 0; i < 200; i++) {
+            due("set", x.set(4, 0, i % 100), true);
+            due("ports", x.look(2), i % 100);
+        }
+        BasketEnvoys y = new BasketEnvoys();
+        y.power(5);
+        y.mute(1, 1, true);
+        for (int i = 0; i < 127; i++) {
+            due("put", y.act(2, 0, i % 12), true);
+            due("emptied", y.act(3, 0, 0), true);
+            due("undo", y.undo(), true);
+            due("undo", y.undo(), true);
+        }
+        due("sent", y.act(0, 0, 0), true);
+        due("the 512th", y.days(1), 0);
     }
 
     static void p46LinesOfEachTextUpTo16() {

@@ -172,6 +172,35 @@ public final class BoundsOfUndoTest {
         due("another line", x.book(lines, 3), 1);
     }
 
+    /** One who is at a power that nods at each of his things, and wants two of them. */
+    private static BasketEnvoys nodding() {
+        BasketEnvoys x = new BasketEnvoys();
+        x.power(40);
+        x.mute(5, 4, false);
+        Checks.tell(x, 0, "cries 0;nods 1000;wins 2;");
+        Checks.tell(x, 3, "power 0 wants 5 6;");
+        x.act(2, 0, 5);
+        x.act(2, 0, 6);
+        x.act(2, 0, 5);
+        x.act(0, 0, 0);
+        return x;
+    }
+
+    private static String readings(BasketEnvoys x) {
+        return x.powerOf(0, 0) + " " + x.powerOf(0, 1) + " " + x.powerOf(0, 2) + " " + x.powerOf(0, 3);
+    }
+
+    static void p44TrustStepNodsAndTreatiesGoBack() {
+        String[] days = {"40 0 0 0", "42 1 1 0", "44 0 2 1", "46 1 3 1"};
+        BasketEnvoys x = nodding();
+        x.days(3);
+        for (int day = 3; day > 0; day--) {
+            Sentences.due("day " + day, readings(x), days[day]);
+            x.undo();
+        }
+        Sentences.due("day 0", readings(x), days[0]);
+    }
+
     static void p44TheLatestFirst() {
         BasketEnvoys x = new BasketEnvoys();
         x.mute(1, 1, false);
@@ -362,21 +391,36 @@ public final class BoundsOfUndoTest {
         Checks.tell(x, 0, "nods 1;cries 1;");
         Checks.tell(x, 1, "power 0 thing 3 says 9;");
         Checks.tell(x, 2, "on 5 home 0;");
-        Checks.tell(x, 3, "power 1 wants 9;power 3 wants 1;");
+        Checks.tell(x, 3, "power 0 wants 7 7 7;power 1 wants 9;power 3 wants 1;");
         x.shows(-1);
+        x.shows(1);
+        x.shows(2);
         x.hears(-1);
-        x.weighs(3, 70);
+        x.hears(2);
+        x.hears(3);
+        x.weighs(1, 70);
+        x.count(-1);
         x.count(70);
+        x.count(80);
         x.table(0, 4, -5);
         x.table(1, 4, 5);
         x.worth(0, 1, 70);
+        x.load(-1, 0);
         x.load(1, 70);
+        x.load(2, 70);
+        x.promise(-1, 0, 0);
         x.promise(4, 5, 1);
-        x.hat(0, 1);
-        x.hat(1, 3);
+        x.promise(5, 6, 1);
+        x.hat(0, 0);
+        x.hat(1, 0);
+        x.border(-1, 0);
         x.border(4, 5);
+        x.cloth(0, -1);
         x.cloth(0, 9);
         x.cloth(1, -1);
+        x.cloth(1, 9);
+        x.cloth(1, 9);
+        x.interpreter(-1);
         x.interpreter(43210);
         x.act(2, 2, 8);
         x.act(0, 2, 1);
@@ -402,6 +446,51 @@ public final class BoundsOfUndoTest {
                 y.image(false);
                 return y;
             }, "the fault");
+        }
+    }
+
+    static void p45TrustStepNodsAndTreatiesComeBack() {
+        BasketEnvoys x = nodding();
+        x.days(3);
+        x.image(true);
+        x.days(2);
+        x.act(0, 0, 0);
+        x.days(3);
+        Checks.tell(x, 3, "power 0 wants 5 6;");
+        x.set(0, 0, 9);
+        x.image(false);
+        Sentences.due("day 3", readings(x), "46 1 3 1");
+        due("at", x.of(0, 3), 0);
+        due("shown", x.of(0, 6), 3);
+    }
+
+    static void p45WhoComesAgainBeginsAnew() {
+        BasketEnvoys x = new BasketEnvoys();
+        Checks.tell(x, 0, "cries 1000 when day=2;cries 0;nods 1000;");
+        x.image(true);
+        for (int times = 0; times < 2; times++) {
+            due("power", x.power(40), 0);
+            due("mute", x.mute(5, 4, true), 0);
+            Sentences.due("readings", readings(x), "40 0 0 0");
+            for (int what = 4; what <= 6; what++) {
+                due("mute " + what, x.of(0, what), 0);
+            }
+            due("at home", x.of(0, 3), -1);
+            due("wants", x.powerOf(0, 4), 0);
+            due("says", x.powerOf(0, 105), 5);
+            Checks.tell(x, 1, "power 0 thing 5 says 7;");
+            Checks.tell(x, 3, "power 0 wants 7 6;");
+            for (int i = 0; i < 3; i++) {
+                x.act(2, 0, 5 + i % 2);
+            }
+            x.act(0, 0, 0);
+            x.days(1);
+            due("step", x.powerOf(0, 1), 1);
+            x.days(1);
+            due("treaties", x.powerOf(0, 3), 1);
+            x.days(1);
+            due("known", x.of(0, 4), 1);
+            x.image(false);
         }
     }
 

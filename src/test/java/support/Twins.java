@@ -130,6 +130,7 @@ final class Twins {
         x.hears(-2);
         x.weighs(3, 7);
         x.weighs(4, 2);
+        x.weighs(1, 6);
         x.count(3);
         x.count(5);
         x.table(0, 4, 5);
