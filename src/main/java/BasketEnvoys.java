@@ -304,7 +304,7 @@ public final class BasketEnvoys {
         if (!within(i, 0, now.town.bookLines - 1) || !within(what, 0, BOOK_WIDTH - 1)) {
             return NONE;
         }
-        return now.book[BOOK_WIDTH * i + what];
+        return entry(now.book, BOOK_WIDTH * i + what);
     }
 
     public int goes(int n, int what) {
@@ -692,11 +692,11 @@ public final class BasketEnvoys {
         }
 
         boolean hasPower(int power) {
-            return power >= 0 && power < powers;
+            return power >= 0 && power < powers && power < POWERS;
         }
 
         boolean hasMute(int mute) {
-            return mute >= 0 && mute < mutes;
+            return mute >= 0 && mute < mutes && mute < MUTES;
         }
 
         boolean isHome(int mute) {
@@ -710,7 +710,7 @@ public final class BasketEnvoys {
         int whoIsAt(int power) {
             int who = 0;
             for (int m = 0; m < mutes; m++) {
-                who |= at[m] == power ? 1 << m : 0;
+                who |= entry(at, m) == power ? 1 << m : 0;
             }
             return who;
         }
@@ -718,7 +718,7 @@ public final class BasketEnvoys {
         int whoIsAway() {
             int who = 0;
             for (int m = 0; m < mutes; m++) {
-                who |= at[m] != NONE ? 1 << m : 0;
+                who |= isAway(m) ? 1 << m : 0;
             }
             return who;
         }
@@ -726,7 +726,7 @@ public final class BasketEnvoys {
         int whoIsKnown() {
             int who = 0;
             for (int m = 0; m < mutes; m++) {
-                who |= known[m] != 0 ? 1 << m : 0;
+                who |= entry(known, m) != 0 ? 1 << m : 0;
             }
             return who;
         }
@@ -874,7 +874,7 @@ public final class BasketEnvoys {
 
         /** E of the first line for the word whose B is so; without one what is told otherwise. */
         int tell(int asked, int[] facts, int otherwise) {
-            for (int i = 0; i < lines; i++) {
+            for (int i = 0; i < lines && i < LINES; i++) {
                 if (word[i] == asked) {
                     if (when[i] == NONE) {
                         return run(from[i], to[i], facts);
@@ -1042,7 +1042,7 @@ public final class BasketEnvoys {
         }
 
         void keep(Town town) {
-            Town kept = towns[next];
+            Town kept = townAt(next);
             if (kept != null) {
                 kept.copyFrom(town);
                 next = (next + 1) % UNDOS;
@@ -1056,7 +1056,7 @@ public final class BasketEnvoys {
             }
             size--;
             next = (next + UNDOS - 1) % UNDOS;
-            Town kept = towns[next];
+            Town kept = townAt(next);
             if (kept != null) {
                 town.copyFrom(kept);
             }
@@ -1065,6 +1065,10 @@ public final class BasketEnvoys {
 
         void forget() {
             size = 0;
+        }
+
+        private Town townAt(int i) {
+            return i >= 0 && i < towns.length ? towns[i] : null;
         }
     }
 

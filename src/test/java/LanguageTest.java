@@ -23,6 +23,7 @@ public final class LanguageTest {
     public static void main(String[] args) throws IOException {
         face();
         inside();
+        calls();
         words(bare(Files.readString(Path.of("src/main/java/BasketEnvoys.java"))));
         CHECKS.finish();
     }
@@ -77,6 +78,23 @@ public final class LanguageTest {
                 rule("rule 6, no bridge or lambda: " + m, !m.isSynthetic());
             }
         }
+    }
+
+    private static void calls() {
+        if (!Calls.canBeRead()) {
+            System.out.println("no javap here: how deep calls go was not tried");
+            return;
+        }
+        Calls calls = new Calls(BasketEnvoys.class);
+        for (String name : FACE) {
+            rule("the calls are read: " + name, calls.methods().contains("BasketEnvoys." + name));
+        }
+        for (String method : calls.methods()) {
+            rule("rule 11, deep: " + method + ": " + calls.depth(method), calls.depth(method) <= 8);
+        }
+        // these carry their depth as an argument
+        Set<String> may = Set.of("BasketEnvoys$Reader.readAny", "BasketEnvoys$Reader.readCondition", "BasketEnvoys$Riddles.paint");
+        rule("rule 8, what calls itself: " + calls.recursive(), calls.recursive().equals(may));
     }
 
     /** The source without comments and without what stands in quotes. */
